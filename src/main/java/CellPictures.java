@@ -636,16 +636,15 @@ public final class CellPictures {
         }
 
         private boolean cutsClean() {
-            int at = 0;
-            while (at < tape.size) {
+            int digits = 0;
+            for (int at = 0; at < tape.size; at++) {
                 int b = tape.byteAt(at);
-                int to = isDigit(b) ? endOfDigits(at) : at + 1;
+                digits = isDigit(b) ? digits + 1 : 0;
                 boolean isKnown = isDigit(b) || isLetter(b) || isSpace(b) || b == ';';
-                if (!isKnown || to - at > 2) {
-                    start = at;
+                if (!isKnown || digits > 2) {
+                    start = isKnown ? at - 2 : at;
                     return refuse(BAD_CUT);
                 }
-                at = to;
             }
             return true;
         }
