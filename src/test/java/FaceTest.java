@@ -94,7 +94,8 @@ public final class FaceTest {
 
     private static void checkSource(List<String> lines) {
         Pattern outside = Pattern.compile(
-                "\\b(throw|throws|try|catch|synchronized|assert|protected|package)\\b|->|::|\\bwhile \\(true\\)|for \\(;;");
+                "\\b(throw|throws|try|catch|synchronized|assert|protected|package)\\b|->|::"
+                + "|\\bwhile \\(true\\)|for \\(;;");
         Pattern begin = Pattern.compile("^( {4}| {8})(public|private) .*\\) \\{$");
         for (int i = 0; i < lines.size(); i++) {
             String code = lines.get(i).replaceAll("//.*|^\\s*/?\\*.*", "");

@@ -36,6 +36,9 @@ public final class RoomTest {
                 callDear(colours, filled);
             }
         }
+        for (int run = 0; run < 2000; run++) {
+            callWildly(new Random(run), new CellPictures());
+        }
         System.out.println(atFirst[0] + " objects, " + atFirst[1] + " fields and elements: "
                 + (wrong == 0 ? "the room is as due" : wrong + " things of the room are not as due"));
         if (wrong != 0) {
@@ -113,6 +116,50 @@ public final class RoomTest {
         int told = x.mend();
         check(told >= -2 && told != -1 && told <= 144, "mend answered " + told);
         check(told == -2 || x.search(2, 400) == 1, "a mended puzzle has not one solution");
+    }
+
+    private static final int[] WILD = {Integer.MIN_VALUE, -1000, -3, -2, -1, 0, 1, 2, 3, 4, 5, 7, 11, 12, 13, 20, 23, 24,
+        25, 50, 51, 143, 144, 900, 901, 1000, 1001, 0x31203120, 0x313B313B, 0x3B3B3B3B, Integer.MAX_VALUE};
+
+    private static int wild(Random chance, int usual) {
+        return chance.nextInt(4) > 0 ? chance.nextInt(usual + 1) : WILD[chance.nextInt(WILD.length)];
+    }
+
+    /** Any arguments in any state: what would be thrown ends this test. */
+    private static void callWildly(Random chance, CellPictures x) {
+        for (int i = 0; i < 200; i++) {
+            int a = wild(chance, 12);
+            int b = wild(chance, 12);
+            int c = wild(chance, 3);
+            switch (chance.nextInt(30)) {
+                case 0: x.feed(a, WILD[chance.nextInt(WILD.length)], c, b, WILD[chance.nextInt(WILD.length)]); break;
+                case 1: x.end(a); break;
+                case 2: x.load(); break;
+                case 3: x.fault(); break;
+                case 4: x.blank(a, b, c); break;
+                case 5: x.about(a); break;
+                case 6: x.run(a, b, c); break;
+                case 7: x.give(a, b, c); break;
+                case 8: x.given(a, b); break;
+                case 9: x.fresh(); break;
+                case 10: x.rule(a); break;
+                case 11: x.ways(a); break;
+                case 12: x.rest(); break;
+                case 13: x.tries(); break;
+                case 14: x.set(a, b); break;
+                case 15: x.search(a, b); break;
+                case 16: x.nodes(); break;
+                case 17: x.solution(c, a, b); break;
+                case 18: x.level(); break;
+                case 19: x.marked(a, b); break;
+                case 20: x.done(); break;
+                case 21: x.wrong(); break;
+                case 22: x.hint(); break;
+                case 23: x.draw(); break;
+                case 24: x.mend(); break;
+                default: x.mark(a, b, c); break;
+            }
+        }
     }
 
     /** How many objects and arrays, and how many fields and elements, are held. */
