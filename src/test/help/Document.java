@@ -22,9 +22,17 @@ public final class Document {
     private Document() {
     }
 
+    public static boolean isThere() {
+        return Files.isReadable(PLACE);
+    }
+
+    /** None, if the document is not there. */
     public static Map<String, String> sections() throws IOException {
-        String all = Files.readString(PLACE);
         Map<String, String> sections = new TreeMap<>();
+        if (!isThere()) {
+            return sections;
+        }
+        String all = Files.readString(PLACE);
         for (Matcher m = PROMISE.matcher(all); m.find();) {
             sections.put(m.group(1).replace("Promise ", "promise"), inOneRow(m.group(2)));
         }

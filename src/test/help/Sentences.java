@@ -41,6 +41,9 @@ public final class Sentences {
 
     /** Runs all tests; kinds are how the names of the sections begin that they must cover. */
     public static void runAll(Class<?> tests, String... kinds) throws Exception {
+        if (!Document.isThere()) {
+            System.out.println("the document is not there: no quotation is compared");
+        }
         Map<String, String> sections = Document.sections();
         sections.keySet().removeIf(name -> Arrays.stream(kinds).noneMatch(name::startsWith));
         Map<String, BitSet> quoted = new TreeMap<>();
@@ -78,6 +81,9 @@ public final class Sentences {
     }
 
     private static void quote(Method m, Map<String, String> sections, Map<String, BitSet> quoted) {
+        if (!Document.isThere()) {
+            return;
+        }
         String section = m.getName().substring(0, m.getName().indexOf('_'));
         String words = sections.get(section);
         Sentence sentence = m.getAnnotation(Sentence.class);

@@ -2,51 +2,9 @@
  * The promises, sentence by sentence: a test for each, above all at its boundaries and for calls that
  * are refused. A test's name begins with the promise.
  */
-public final class SentencesOfPromisesTest {
-    private static final int NONE = Look.NONE;
-    private static final int LEAST = Integer.MIN_VALUE;
-    private static final int MOST = Integer.MAX_VALUE;
-    /** 12 times it is 0 by wrap-around. */
-    private static final int WRAPS = 1 << 30;
-    /** Two SOLUTIONS: .1/1. and 1./.1 */
-    private static final String TWO = "2 2 1;1;1;1;1;";
-    /** Of each row and column one cell: six SOLUTIONS. */
-    private static final String SIX = "3 3 1;1;1;1;1;1;1;";
-    /** Row 0 is 122, row 1 is blank. */
-    private static final String FLAG = "3 2 2;1a2b;;1;1b;1b;";
-    /** Column 1 has no WAY as soon as row 0 told its cells. */
-    private static final String NO_WAY = "3 2 1;1 1;2;2;2;;";
-    /** REST is content with it, TRYING FAILS. */
-    private static final String NO_TRYING = "4 4 1;1 1;1 1;1 1;2;1 1;2;1;3;";
-    /** Nothing of it is told by REST, all by TRYING. */
-    private static final String BY_TRYING = ".1/1./1./.1";
-    /** Two SOLUTIONS are found by the 400th NODE. */
-    private static final String BY_400_NODES = ".1..111../....1.11./..1....../..1...1../......1../1......1./....11.../"
-            + "...11.111/11...1.../1..1...11";
-    /** The second SOLUTION would be found by the 401st NODE. */
-    private static final String BY_401_NODES = ".1....1../..1.1..11/...1...../..1.1..1./...11.1../.11....../11.1...../"
-            + ".......11/1...11.../.11..11..";
-    /** 400 NODES show two SOLUTIONS at first, and not any more with six cells GIVEN. */
-    private static final String SPENT_LATER = "......1.1./.....1..../11.....11./...1....../..11.1..1./111....1../...11...../"
-            + "1..1....1./1........./.1...1.1.1";
-    /** More than 1000 NODES. */
-    private static final String SPENT = "11.1..../....1.../.....1../.1....../1....1../1......./..1.11../....111./...11..1/"
-            + ".111....";
-
+public final class SentencesOfPromisesTest extends SentenceTest {
     public static void main(String[] args) throws Exception {
         Sentences.runAll(SentencesOfPromisesTest.class, "promise");
-    }
-
-    private static void due(String what, long got, long want) {
-        Sentences.due(what, got, want);
-    }
-
-    private static void due(String what, boolean got, boolean want) {
-        Sentences.due(what, got, want);
-    }
-
-    private static void due(String what, String got, String want) {
-        Sentences.due(what, got, want);
     }
 
     /** An object with a PUZZLE, GIVENS, MARKS, SETS and SOLUTIONS. */
@@ -61,8 +19,8 @@ public final class SentencesOfPromisesTest {
         return x;
     }
 
-    private static final String BUSY = "3 2 2;1a2b;;1a;1b;1b; runs 5 given 1 .../.0. marked 2 1../.2. sets 4 244/717 nodes 0"
-            + " found 122/000 .../... wrong 1 done 0";
+    private static final String BUSY = "3 2 2;1a2b;;1a;1b;1b; runs 5 given 1 .../.0. marked 2 1../.2."
+            + " sets 4 244/717 nodes 0 found 122/000 .../... wrong 1 done 0";
 
     // ---- 1: a new object
 
@@ -204,6 +162,17 @@ public final class SentencesOfPromisesTest {
         due("its fault", x.fault(), 2);
         Look.feed(x, TWO);
         due("feed is from the first byte on", x.load(), 4);
+        // the runs of the puzzle ahead of it are gone
+        Look.feed(x, "3 1 1;1 1;1;;1;");
+        due("load", x.load(), 4);
+        Look.feed(x, "3 1 1;1;;;1;");
+        due("load of fewer runs", x.load(), 2);
+        due("the puzzle", Look.puzzle(x), "3 1 1;1a;;;1a;");
+        x.fresh();
+        due("its ways", x.ways(0), 3);
+        due("its rule", x.rule(0), 0);
+        due("its rest", x.rest(), 8);
+        due("its sets", Look.sets(x), "112");
         Look.feed(x, TWO + "x");
         due("load with a fault", x.load(), -15);
         due("a byte behind a fault", x.end(1), NONE);
@@ -385,6 +354,12 @@ public final class SentencesOfPromisesTest {
         CellPictures two = Look.loaded(TWO);
         two.rest();
         due("none", two.about(7), 0);
+        for (int v = 1; v <= 3; v++) {
+            String row = Integer.toString(v).repeat(12);
+            CellPictures full = Look.drawn(3, (row + "/").repeat(11) + row);
+            full.rest();
+            due("all of the largest", full.about(7), 144);
+        }
     }
 
     @Sentence("NONE: no PUZZLE,")
@@ -509,8 +484,9 @@ public final class SentencesOfPromisesTest {
         due("nothing is given", x.about(5), 0);
     }
 
-    private static final int[][] NO_CELLS = {{-1, 0}, {0, -1}, {3, 0}, {0, 2}, {3, 1}, {2, 2}, {12, 0}, {0, 12}, {-12, 1},
-        {0, WRAPS}, {WRAPS, 0}, {LEAST, 0}, {0, LEAST}, {MOST, 0}, {0, MOST}, {LEAST, LEAST}, {MOST, MOST}};
+    /** For a grid of 3 by 2 cells. */
+    private static final int[][] NO_CELLS = {{-1, 0}, {0, -1}, {3, 0}, {0, 2}, {3, 1}, {2, 2}, {12, 0}, {0, 12},
+        {-12, 1}, {0, WRAPS}, {WRAPS, 0}, {LEAST, 0}, {0, LEAST}, {MOST, 0}, {0, MOST}, {LEAST, LEAST}, {MOST, MOST}};
 
     @Sentence("no such cell,")
     private static void promise9_noSuchCell() {
@@ -736,17 +712,30 @@ public final class SentencesOfPromisesTest {
     }
 
     @Sentence("NONE: likewise.")
-    private static void promise13_noneLikewise() {
-        due("no puzzle", new CellPictures().ways(0), NONE);
-        CellPictures x = Look.loaded(FLAG);
-        due("no sets", x.ways(0), NONE);
-        due("it made none", x.set(0, 0), NONE);
-        x.fresh();
+    private static void promise13_likewiseNoPuzzle() {
+        due("ways", new CellPictures().ways(0), NONE);
+    }
+
+    @Sentence("NONE: likewise.")
+    private static void promise13_likewiseNoSuchLine() {
+        CellPictures x = busy();
         for (int line : NO_LINES) {
             due("ways " + line, x.ways(line), NONE);
         }
+        CellPictures full = Look.blank(12, 12, 1);
+        full.fresh();
+        due("line 23", full.ways(23), 1);
+        due("line 24", full.ways(24), NONE);
+    }
+
+    @Sentence("NONE: likewise.")
+    private static void promise13_likewiseNoSets() {
+        CellPictures x = Look.loaded(FLAG);
+        due("ways", x.ways(0), NONE);
+        due("it made none", x.set(0, 0), NONE);
+        x.fresh();
         x.blank(3, 2, 2);
-        due("no sets of a new puzzle", x.ways(0), NONE);
+        due("ways of a new puzzle", x.ways(0), NONE);
     }
 
     // ---- 14: rest
@@ -913,7 +902,7 @@ public final class SentencesOfPromisesTest {
 
     @Sentence("with that many NODES (0 to 1000) at most:")
     private static void promise17_noneToAThousandNodes() {
-        CellPictures x = Look.drawn(1, SPENT);
+        CellPictures x = Look.drawn(1, ABOVE_1000_NODES);
         for (int nodes : new int[] {0, 1, 2, 999, 1000}) {
             due("search with " + nodes, x.search(2, nodes), -2);
             due("nodes of " + nodes, x.nodes(), nodes);
@@ -946,6 +935,7 @@ public final class SentencesOfPromisesTest {
         due("behind five", six.search(50, 9), -2);
         due("the first", Look.solution(six, 0), "001/010/100");
         due("the second", Look.solution(six, 1), "001/100/010");
+        due("the next is not", six.search(50, 10), 6);
     }
 
     @Sentence("NONE: no PUZZLE,")
@@ -1013,7 +1003,7 @@ public final class SentencesOfPromisesTest {
         due("with givens told since", x.nodes(), 2);
         x.search(2, 5);
         due("without any", x.nodes(), 0);
-        CellPictures most = Look.drawn(1, SPENT);
+        CellPictures most = Look.drawn(1, ABOVE_1000_NODES);
         most.search(2, 1000);
         due("the most", most.nodes(), 1000);
     }
@@ -1125,8 +1115,7 @@ public final class SentencesOfPromisesTest {
     private static void promise20_level() {
         due("0", Look.loaded(FLAG).level(), 0);
         due("1", Look.drawn(1, BY_TRYING).level(), 1);
-        due("2", Look.drawn(1, ".11......./..11.1.11./.1..1....1/...1.1.11./.......1../........../.........1/.11...11../"
-                + "........../.....1..11").level(), 2);
+        due("2", Look.drawn(1, BY_SEARCH).level(), 2);
         due("3", Look.loaded(TWO).level(), 3);
         due("3 by the 400th node", Look.drawn(1, BY_400_NODES).level(), 3);
         due("4", Look.loaded(NO_WAY).level(), 4);
@@ -1420,13 +1409,23 @@ public final class SentencesOfPromisesTest {
         due("the first cell of a column", column.hint(), 40014);
     }
 
-    @Sentence("NONE: there is none, no PUZZLE.")
+    @Sentence("NONE: there is none,")
     private static void promise25_thereIsNone() {
-        due("without a puzzle", new CellPictures().hint(), NONE);
         due("nothing is told", Look.loaded(TWO).hint(), NONE);
         CellPictures x = Look.loaded(TWO);
         Look.mark(x, "01/10");
         due("all are marked", x.hint(), NONE);
+        CellPictures y = Look.loaded(TWO);
+        y.give(0, 0, 0);
+        y.give(1, 0, 1);
+        y.give(0, 1, 1);
+        y.give(1, 1, 0);
+        due("all are given", y.hint(), NONE);
+    }
+
+    @Sentence("no PUZZLE.")
+    private static void promise25_noPuzzle() {
+        due("hint", new CellPictures().hint(), NONE);
     }
 
     // ---- 26: draw
@@ -1477,8 +1476,17 @@ public final class SentencesOfPromisesTest {
         due("there is none still", x.about(0), NONE);
     }
 
-    @Sentence("(MARKS stay. It is a new PUZZLE as to SETS and SOLUTIONS.)")
+    @Sentence("(MARKS stay.")
     private static void promise26_marksStay() {
+        CellPictures x = busy();
+        x.mark(2, 1, 0);
+        x.draw();
+        due("marks", Look.marks(x), "1../.20");
+        due("how many", x.about(6), 3);
+    }
+
+    @Sentence("It is a new PUZZLE as to SETS and SOLUTIONS.)")
+    private static void promise26_aNewPuzzle() {
         CellPictures x = busy();
         due("draw", x.draw(), 4);
         due("all of it", Look.state(x), "3 2 2;1a;1b;1a;1b;; runs 4 given 0 .../... marked 2 1../.2. sets 0 .../..."
@@ -1544,7 +1552,7 @@ public final class SentencesOfPromisesTest {
 
     @Sentence("-2: one was SPENT (what was GIVEN stays).")
     private static void promise27_oneWasSpent() {
-        CellPictures at0 = Look.drawn(1, SPENT);
+        CellPictures at0 = Look.drawn(1, ABOVE_1000_NODES);
         due("the first one", at0.mend(), -2);
         due("nothing was given", at0.about(5), 0);
         CellPictures later = Look.drawn(1, SPENT_LATER);
@@ -1553,6 +1561,10 @@ public final class SentencesOfPromisesTest {
         due("what was given stays", later.about(5), 6);
         due("they are as the marks", later.done(), 1);
         due("it is spent with those", later.search(2, 400), -2);
+        at0.blank(2, 2, 1);
+        Look.mark(at0, "1./.1");
+        at0.draw();
+        due("the next is not", at0.mend(), 1);
     }
 
     @Sentence("NONE: no PUZZLE,")

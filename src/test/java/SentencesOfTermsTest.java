@@ -2,34 +2,9 @@
  * The document's terms, and what it says beside the promises, sentence by sentence: a test for each,
  * above all at its boundaries. A test's name begins with the term.
  */
-public final class SentencesOfTermsTest {
-    private static final int NONE = Look.NONE;
-    /** Two SOLUTIONS: .1/1. and 1./.1 */
-    private static final String TWO = "2 2 1;1;1;1;1;";
-    /** Column 1 has no WAY as soon as row 0 told its cells. */
-    private static final String NO_WAY = "3 2 1;1 1;2;2;2;;";
-    /** REST is content with it, TRYING FAILS. */
-    private static final String NO_TRYING = "4 4 1;1 1;1 1;1 1;2;1 1;2;1;3;";
-    /** TRYING is content with it, SEARCH finds nothing. */
-    private static final String NO_SEARCH = "10 10 1;1 1;1 2 1;1 1 4;1 1;1 1;1;2 1;1 2;1 2;2 1;"
-            + "1;2 1;1;2 2;3 1;2 2;1;1 1 1 1;2 1 1;2 1;";
-    /** Nothing of it is told by REST, all by TRYING. */
-    private static final String BY_TRYING = ".1/1./1./.1";
-
+public final class SentencesOfTermsTest extends SentenceTest {
     public static void main(String[] args) throws Exception {
         Sentences.runAll(SentencesOfTermsTest.class, "term", "others");
-    }
-
-    private static void due(String what, long got, long want) {
-        Sentences.due(what, got, want);
-    }
-
-    private static void due(String what, boolean got, boolean want) {
-        Sentences.due(what, got, want);
-    }
-
-    private static void due(String what, String got, String want) {
-        Sentences.due(what, got, want);
     }
 
     private static void fault(String text, int kind, int place) {
@@ -123,6 +98,13 @@ public final class SentencesOfTermsTest {
         due("the length of the 12th", x.run(0, 11, 0), 1);
         due("the colour of the 12th", x.run(0, 11, 1), 2);
         due("the 13th", x.run(0, 12, 0), NONE);
+        x.fresh();
+        due("ways of twelve runs", x.ways(0), 1);
+        due("rule of twelve runs", x.rule(0), 12);
+        due("sets of twelve runs", Look.sets(x), "242424242424");
+        CellPictures most = Look.drawn(2, "121212121212/212121212121/".repeat(6));
+        due("rest of 24 lines of twelve runs", most.rest(), 48);
+        due("its cells of one value", most.about(7), 144);
         CellPictures none = Look.blank(1, 1, 1);
         due("no runs", none.run(0, NONE, 0), 0);
         due("the first of none", none.run(0, 0, 0), NONE);
@@ -189,8 +171,9 @@ public final class SentencesOfTermsTest {
     @Sentence("A row of VALUES READS AS the lengths and VALUES of its stretches, in order: "
             + "a stretch is a greatest row of neighbours of one VALUE other than 0.")
     private static void term1_aRowReadsAsItsStretches() {
-        String[][] rows = {{"0", ""}, {"1", "1a"}, {"............", ""}, {"111111111111", "12a"}, {"1..........1", "1a1a"},
-            {"121212121212", "1a1b1a1b1a1b1a1b1a1b1a1b"}, {"1.1.1.1.1.1.", "1a1a1a1a1a1a"}, {"33", "2c"}, {"3303", "2c1c"},
+        String[][] rows = {{"0", ""}, {"1", "1a"}, {"............", ""}, {"111111111111", "12a"},
+            {"1..........1", "1a1a"}, {"121212121212", "1a1b1a1b1a1b1a1b1a1b1a1b"},
+            {"1.1.1.1.1.1.", "1a1a1a1a1a1a"}, {"33", "2c"}, {"3303", "2c1c"},
             {"1123", "2a1b1c"}, {"0211", "1b2a"}, {"10022", "1a2b"}, {"..1", "1a"}, {"2..", "1b"}, {"010", "1a"}};
         for (String[] row : rows) {
             CellPictures x = Look.drawn(3, row[0]);
@@ -230,6 +213,31 @@ public final class SentencesOfTermsTest {
         CellPictures one = Look.loaded("1 1 1;;;");
         due("one cell", one.search(50, 100), 1);
         due("its solution", Look.solution(one, 0), "0");
+    }
+
+    @Sentence("the GIVENS' as told, so that each LINE READS AS its RUNS.")
+    private static void term1_eachGivenAndEachLineCounts() {
+        // all lines but one are as they should be
+        String[][] unlikeInOne = {{"4 2 1;2;1 1;1;1;1;1;", ".1.1/1.1.", ".11./1..1"},
+            {"4 2 1;1 1;2;1;1;1;1;", ".1.1/1.1.", "1..1/.11."},
+            {"2 4 1;1;1;1;1;2;1 1;", ".1/1./.1/1.", ".1/1./1./.1"},
+            {"2 4 1;1;1;1;1;1 1;2;", ".1/1./.1/1.", "1./.1/.1/1."}};
+        for (String[] one : unlikeInOne) {
+            CellPictures x = Look.loaded(one[0]);
+            Look.mark(x, one[1]);
+            due("marks " + one[1] + " in " + one[0], x.done(), 0);
+            CellPictures y = Look.loaded(one[0]);
+            Look.mark(y, one[2]);
+            due("marks " + one[2] + " in " + one[0], y.done(), 1);
+        }
+        for (int i = 0; i < 6; i++) {
+            CellPictures x = Look.drawn(2, "122/...");
+            due("the marks", x.done(), 1);
+            for (int v = 0; v <= 2; v++) {
+                x.give(i % 3, i / 3, v);
+                due("the marks with cell " + i + " given " + v, x.done(), v == "122000".charAt(i) - '0' ? 1 : 0);
+            }
+        }
     }
 
     // ---- term 2: tokens and puzzles
@@ -452,7 +460,8 @@ public final class SentencesOfTermsTest {
         fault("1 1 1;" + "1 ".repeat(12), 2, 30);
         fault("1 12 2;" + "1a;1b;".repeat(6) + twelve + "1;", 5, 67);
         // twelve a line, and not of all lines together
-        good("12 2 2;" + (twelve + ";").repeat(2) + "2a;2b;".repeat(6), "12 2 2;" + (twelve + ";").repeat(2) + "2a;2b;".repeat(6));
+        String two = "12 2 2;" + (twelve + ";").repeat(2) + "2a;2b;".repeat(6);
+        good(two, two);
     }
 
     @Sentence("6 RUNS that no row of as many cells READS AS, at the LINE's ; .")
@@ -509,6 +518,10 @@ public final class SentencesOfTermsTest {
                 due("the set of a given " + v, x.set(0, 0), 1 << v);
                 due("the set of another cell with " + c + " colours", x.set(1, 0), (2 << c) - 1);
             }
+            CellPictures full = Look.blank(12, 12, c);
+            full.fresh();
+            String row = Integer.toHexString((2 << c) - 1).repeat(12);
+            due("the sets of all cells with " + c + " colours", Look.sets(full), (row + "/").repeat(11) + row);
         }
     }
 
@@ -535,6 +548,67 @@ public final class SentencesOfTermsTest {
         x.give(0, 0, 2);
         x.fresh();
         due("with another colour at first", x.ways(0), 0);
+    }
+
+    @Sentence("LINE RULE: of all rows of VALUES, each from its cell's SET, that READ AS the LINE's RUNS (its WAYS): "
+            + "if there is none, it FAILS (nothing changes), "
+            + "else each cell's SET becomes that of all VALUES which it has in one of them.")
+    private static void term3_theLineRuleWithAnyGivens() {
+        for (String picture : new String[] {".....", "1.1..", "11.1.", "12.2.", "1122.", "21212", "2...1", "22222"}) {
+            for (int givens = 0; givens < 4 * 4 * 4 * 4 * 4; givens++) {
+                compareWithAllRows(picture, givens);
+            }
+        }
+    }
+
+    /** Givens: a digit to the base of 4 a cell; 3 is none. */
+    private static void compareWithAllRows(String picture, int givens) {
+        CellPictures x = Look.drawn(2, picture);
+        int[] given = new int[5];
+        for (int i = 0; i < 5; i++) {
+            given[i] = givens >> 2 * i & 3;
+            x.give(i, 0, given[i] == 3 ? NONE : given[i]);
+        }
+        x.fresh();
+        int ways = 0;
+        int[] kept = new int[5];
+        for (int n = 0; n < 3 * 3 * 3 * 3 * 3; n++) {
+            int[] row = {n / 81, n / 27 % 3, n / 9 % 3, n / 3 % 3, n % 3};
+            boolean isWay = reads(row).equals(Look.runs(x, 0));
+            for (int i = 0; i < 5; i++) {
+                isWay &= given[i] == 3 || given[i] == row[i];
+            }
+            for (int i = 0; i < 5 && isWay; i++) {
+                kept[i] |= 1 << row[i];
+            }
+            ways += isWay ? 1 : 0;
+        }
+        int smaller = 0;
+        StringBuilder sets = new StringBuilder();
+        for (int i = 0; i < 5; i++) {
+            int first = given[i] == 3 ? 7 : 1 << given[i];
+            smaller += kept[i] == first ? 0 : 1;
+            sets.append(ways == 0 ? first : kept[i]);
+        }
+        String which = " of " + picture + " with givens " + Look.givens(x);
+        due("ways" + which, x.ways(0), ways);
+        due("rule" + which, x.rule(0), ways == 0 ? -2 : smaller);
+        due("sets" + which, Look.sets(x), sets.toString());
+    }
+
+    private static String reads(int[] row) {
+        StringBuilder text = new StringBuilder();
+        for (int i = 0; i < row.length;) {
+            int end = i;
+            while (end < row.length && row[end] == row[i]) {
+                end++;
+            }
+            if (row[i] != 0) {
+                text.append(end - i).append("-ab".charAt(row[i]));
+            }
+            i = end;
+        }
+        return text.toString();
     }
 
     private static long ways(String text) {
@@ -786,21 +860,10 @@ public final class SentencesOfTermsTest {
         due("nodes", x.nodes(), 0);
         due("no node is needed", Look.drawn(1, ".1./111/.1.").search(50, 0), 1);
         due("nothing is found without a node", Look.loaded(NO_WAY).search(50, 0), 0);
+        due("a search behind one that was spent", x.search(50, 2), 2);
     }
 
     // ---- term 4
-
-    /** Two SOLUTIONS are found by the 400th NODE. */
-    private static final String BY_400_NODES = ".1..111../....1.11./..1....../..1...1../......1../1......1./....11.../"
-            + "...11.111/11...1.../1..1...11";
-    /** The second SOLUTION would be found by the 401st NODE. */
-    private static final String BY_401_NODES = ".1....1../..1.1..11/...1...../..1.1..1./...11.1../.11....../11.1...../"
-            + ".......11/1...11.../.11..11..";
-    /** 400 NODES show no SOLUTION. */
-    private static final String SPENT = "1..1.1../.11...1./..1.1.../1..1...1/.11...../..1111../....1.11/......11";
-    /** TRYING does not tell its one SOLUTION. */
-    private static final String BY_SEARCH = ".11......./..11.1.11./.1..1....1/...1.1.11./.......1../........../.........1/"
-            + ".11...11../........../.....1..11";
 
     @Sentence("MARKS of a hand: each cell is marked with a VALUE or not; at first (with a new PUZZLE) none is.")
     private static void term4_noMarksAtFirst() {
@@ -863,10 +926,20 @@ public final class SentencesOfTermsTest {
         due("spent", one.search(2, 400), -2);
         due("one was found", one.solution(0, 0, 0) != NONE, true);
         due("level", one.level(), 5);
-        CellPictures none = Look.drawn(1, SPENT);
+        CellPictures none = Look.drawn(1, NONE_BY_400_NODES);
         due("spent", none.search(2, 400), -2);
         due("none was found", none.solution(0, 0, 0), NONE);
         due("level", none.level(), 5);
+        for (int x = 0; x < 8; x++) {
+            for (int y = 0; y < 8; y++) {
+                none.give(x, y, Math.max(0, none.marked(x, y)));
+            }
+        }
+        due("level with all given", none.level(), 0);
+        none.blank(2, 2, 1);
+        Look.mark(none, "1./.1");
+        none.draw();
+        due("level by a search behind one that was spent", none.level(), 3);
     }
 
     @Sentence("2 if it finds one,")
