@@ -51,6 +51,9 @@ public final class ModelTest {
         for (String[] picture : HARD) {
             new ModelTest(run++, 12, 1).playHard(picture);
         }
+        for (String picture : AT_BOUNDARIES) {
+            new ModelTest(run++, 12, 1).playHard(picture.split("/"));
+        }
         for (String text : HARD_TEXTS) {
             ModelTest test = new ModelTest(run++, 12, 1);
             test.playTape(text, false);
@@ -106,6 +109,13 @@ public final class ModelTest {
             ".#......##", ".#.##.....", "..##...##."},
     };
 
+    /** The pictures of the tests of sentences, so that what is due there is not the class's word alone. */
+    private static final String[] AT_BOUNDARIES = {SentenceTest.BY_TRYING, SentenceTest.BY_SEARCH,
+        SentenceTest.BY_400_NODES, SentenceTest.BY_401_NODES, SentenceTest.NONE_BY_400_NODES,
+        SentenceTest.ABOVE_1000_NODES, SentenceTest.SPENT_LATER, "1...1/.1..1/..11.", "..11../111.../.1..1.",
+        "1..1/..../..1./.1.1/1.1./11..", "1..1/.1../.1.2/2.1./.22.", ".1./1../.../.1./..1/..1",
+        "...11/....1/11.../.1.../..1../..1..", ".2./2.1/.1.", "..1/1../.1.", "1../.1./..1", ".1./1.1", "1./1./.1"};
+
     /** Without a solution: TRYING shows it; only SEARCH shows it. */
     private static final String[] HARD_TEXTS = {
         "4 4 1;1 1;1 1;1 1;2;1 1;2;1;3;",
@@ -114,13 +124,16 @@ public final class ModelTest {
 
     /** A picture, or one by chance: the dear calls on its puzzle, and on the same with other columns. */
     private void playHard(String[] rows) {
-        int c = rows == null ? mostColours : 1;
+        int c = rows == null ? mostColours : String.join("", rows).contains("2") ? 2 : 1;
         int[][] picture = new int[rows == null ? 10 + upTo(2) : rows.length][rows == null ? 12 : rows[0].length()];
         int filled = 2 + upTo(3);
         for (int y = 0; y < picture.length; y++) {
             for (int x = 0; x < picture[y].length; x++) {
-                boolean is = rows == null ? chance.nextInt(10) < filled : rows[y].charAt(x) == '#';
-                picture[y][x] = is ? 1 + upTo(c - 1) : 0;
+                if (rows != null) {
+                    picture[y][x] = Math.max(".12".indexOf(rows[y].charAt(x)), rows[y].charAt(x) == '#' ? 1 : 0);
+                } else if (chance.nextInt(10) < filled) {
+                    picture[y][x] = 1 + upTo(c - 1);
+                }
             }
         }
         playTape(textOf(picture, c, order(picture[0].length, true), 0), false);
@@ -146,8 +159,10 @@ public final class ModelTest {
         due("rest()", () -> real.rest(), () -> model.rest());
         compareAll();
         due("tries()", () -> real.tries(), () -> model.tries());
-        due("search(2, 400)", () -> real.search(2, 400), () -> model.search(2, 400));
-        due("nodes()", () -> real.nodes(), () -> model.nodes);
+        for (int nodes : new int[] {1000, 401, 399, 400}) {
+            due("search(2, " + nodes + ")", () -> real.search(2, nodes), () -> model.search(2, nodes));
+            due("nodes()", () -> real.nodes(), () -> model.nodes);
+        }
         compareAll();
     }
 
